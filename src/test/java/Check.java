@@ -20,6 +20,10 @@ final class Check {
         due(what, holds ? 1 : 0, 1);
     }
 
+    int checked() {
+        return checked;
+    }
+
     /** Ends the program, with exit code 1 if an answer was wrong. */
     void end() {
         System.out.println(name + ": " + checked + " checked, " + wrong + " wrong");
