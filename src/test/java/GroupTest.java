@@ -10,6 +10,7 @@ final class GroupTest {
         treeCount();
         treeCountOfDenseGraph();
         identity();
+        identityAfterOtherCalls();
         order();
         factorsOfNamedGraphs();
         factorsOfManyEdges();
@@ -72,6 +73,23 @@ final class GroupTest {
         ChipGame complete = Check.named("complete4");
         for (int v = 1; v < 4; v++) {
             due("27 complete4", complete.identity(v), 2);
+        }
+    }
+
+    private static void identityAfterOtherCalls() {
+        ChipGame x = Check.named("cycle6");
+        x.setSink(3);
+        Check.setAll(x, 1, 2, 0, 5, 4);
+        x.keep(0);
+        x.isSameClass(0);
+        x.firings(1);
+        due("27 opposite the sink", x.identity(0), 0);
+        x.makeRecurrent();
+        x.add(0);
+        int[] want = {0, 1, 1, ChipGame.UNKNOWN, 1, 1};
+        for (int v = 0; v < 6; v++) {
+            due("27 node " + v, x.identity(v), want[v]);
+            x.firings(v);
         }
     }
 

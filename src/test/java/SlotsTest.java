@@ -11,7 +11,9 @@ final class SlotsTest {
         load();
         add();
         addIsLimited();
+        withAnotherSink();
         isSameClass();
+        isSameClassOfSlots();
         isSameClassOfLargeStates();
         CHECK.end();
     }
@@ -90,6 +92,39 @@ final class SlotsTest {
         x.add(2);
         x.setChips(2, 1);
         due("24 one node is enough", x.add(2), ChipGame.FULL);
+    }
+
+    private static void withAnotherSink() {
+        ChipGame x = Check.named("path4");
+        x.setSink(2);
+        Check.setAll(x, 1, 2, 3);
+        x.keep(1);
+        due("24 sum", x.add(1), 12);
+        due("24 state", Check.digits(x), 246);
+        Check.setAll(x, 0, 0, 0);
+        due("23 sum", x.load(1), 6);
+        due("23 state", Check.digits(x), 123);
+    }
+
+    private static void isSameClassOfSlots() {
+        ChipGame x = Check.named("cycle5");
+        x.setSink(4);
+        x.keep(2);
+        x.setChips(0, 1);
+        x.keep(0);
+        x.setChips(0, 2);
+        x.keep(1);
+        due("25 slot 0", x.isSameClass(0), 0);
+        due("25 slot 1", x.isSameClass(1), 1);
+        due("25 slot 2", x.isSameClass(2), 0);
+        x.load(0);
+        due("25 slot 0", x.isSameClass(0), 1);
+        due("25 slot 1", x.isSameClass(1), 0);
+        x.load(2);
+        due("25 slot 0", x.isSameClass(0), 0);
+        due("25 slot 2", x.isSameClass(2), 1);
+        Check.setAll(x, 0, 0, 2, 0);
+        due("25 slot 0 by other nodes", x.isSameClass(0), 1);
     }
 
     private static void isSameClass() {

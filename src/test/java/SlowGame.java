@@ -15,6 +15,7 @@ final class SlowGame {
     private String text = "";
     private final ArrayDeque<int[]> history = new ArrayDeque<>();
     private final int[][] slots = new int[3][];
+    private int[][] joining = {{0, 1}, {1, 0}};
 
     // ---- graph
 
@@ -27,8 +28,17 @@ final class SlowGame {
         sink = 0;
         edges.clear();
         state = new int[8];
-        forget();
+        graphChanged();
         return before;
+    }
+
+    private void graphChanged() {
+        forget();
+        joining = new int[nodes][nodes];
+        for (int[] ends : edges) {
+            joining[ends[0]][ends[1]]++;
+            joining[ends[1]][ends[0]]++;
+        }
     }
 
     private void forget() {
@@ -55,7 +65,7 @@ final class SlowGame {
             return -10005;
         }
         edges.add(new int[] {u, v});
-        forget();
+        graphChanged();
         return edges.size() - 1;
     }
 
@@ -64,7 +74,7 @@ final class SlowGame {
             return -10001;
         }
         edges.remove(e);
-        forget();
+        graphChanged();
         return edges.size();
     }
 
@@ -123,6 +133,7 @@ final class SlowGame {
         }
         reset(k);
         edges.addAll(drawn);
+        graphChanged();
         return edges.size();
     }
 
@@ -170,13 +181,7 @@ final class SlowGame {
     }
 
     private int between(int u, int v) {
-        int count = 0;
-        for (int[] ends : edges) {
-            if (ends[0] == u && ends[1] == v || ends[0] == v && ends[1] == u) {
-                count++;
-            }
-        }
-        return count;
+        return joining[u][v];
     }
 
     private int degreeAt(int v) {
@@ -295,8 +300,9 @@ final class SlowGame {
     /** The set of nodes that burn; rounds, where given, is filled in. */
     private int burn(int[] chips, boolean firstRule, int[] rounds) {
         int burnt = 1 << sink;
-        for (int round = 1; round < 20; round++) {
-            int earlier = burnt;
+        int earlier = 0;
+        for (int round = 1; burnt != earlier; round++) {
+            earlier = burnt;
             for (int v = 0; v < nodes; v++) {
                 int edgesToBurnt = edgesTo(v, earlier);
                 boolean burns = firstRule ? chips[v] + edgesToBurnt >= degreeAt(v) : edgesToBurnt > chips[v];
