@@ -1071,8 +1071,9 @@ public final class ChipGame {
                 if (!bringLeastToCorner(t)) {
                     return;
                 }
-                boolean isClear = clearColumn(t, modulus) & clearRow(t, modulus);
-                if (isClear && !addUndividedRow(t, modulus)) {
+                boolean isColumnClear = clearColumn(t, modulus);
+                boolean isRowClear = clearRow(t, modulus);
+                if (isColumnClear && isRowClear && !addUndividedRow(t, modulus)) {
                     return;
                 }
             }
@@ -1119,7 +1120,9 @@ public final class ChipGame {
             boolean isClear = true;
             for (int i = t + 1; i < size && corner != 0; i++) {
                 addRow(t, i, -(cells[i][t] / corner), modulus);
-                isClear &= cells[i][t] == 0;
+                if (cells[i][t] != 0) {
+                    isClear = false;
+                }
             }
             return isClear;
         }
@@ -1129,7 +1132,9 @@ public final class ChipGame {
             boolean isClear = true;
             for (int j = t + 1; j < size && corner != 0; j++) {
                 addColumn(t, j, -(cells[t][j] / corner), modulus);
-                isClear &= cells[t][j] == 0;
+                if (cells[t][j] != 0) {
+                    isClear = false;
+                }
             }
             return isClear;
         }
