@@ -1,6 +1,8 @@
 /** Counts and prints the answers that are not as due. */
 final class Check {
     private final String name;
+    private String sentence = "";
+    private int checkedBefore = 0;
     private int checked = 0;
     private int wrong = 0;
 
@@ -12,7 +14,22 @@ final class Check {
         checked++;
         if (got != want) {
             wrong++;
-            System.out.println(name + ": " + call + " answered " + got + ", due is " + want);
+            System.out.println(name + ": " + sentence + call + " answered " + got + ", due is " + want);
+        }
+    }
+
+    /** Begins the test of a sentence of the document, which what is wrong is then told with. */
+    void sentence(String quote) {
+        endSentence();
+        sentence = "\"" + quote + "\" ";
+        checkedBefore = checked;
+    }
+
+    /** A sentence under which nothing was checked has no test. */
+    private void endSentence() {
+        if (!sentence.isEmpty() && checked == checkedBefore) {
+            wrong++;
+            System.out.println(name + ": nothing checked for " + sentence);
         }
     }
 
@@ -26,6 +43,7 @@ final class Check {
 
     /** Ends the program, with exit code 1 if an answer was wrong. */
     void end() {
+        endSentence();
         System.out.println(name + ": " + checked + " checked, " + wrong + " wrong");
         if (wrong != 0 || checked == 0) {
             System.exit(1);
