@@ -74,6 +74,13 @@ final class Check {
         return game;
     }
 
+    /** Adds edges between two nodes until there are 20 edges. */
+    static void fill(ChipGame game, int u, int v) {
+        for (int tries = 0; tries < 20 && game.value(1) < 20; tries++) {
+            game.addEdge(u, v);
+        }
+    }
+
     /** Sets the chips of the nodes but the sink, in ascending order of the nodes. */
     static void setAll(ChipGame game, int... chips) {
         int node = 0;

@@ -66,9 +66,7 @@ final class ChipsSentencesTest {
         sentence("A node can fire if it is not the sink, its degree is above 0, "
             + "and it has at least as many chips as its degree");
         ChipGame x = new ChipGame();
-        while (x.value(1) < 20) {
-            x.addEdge(1, 0);
-        }
+        Check.fill(x, 1, 0);
         x.setChips(1, 19);
         due("one chip too few", x.fire(1), ChipGame.NOT_POSSIBLE);
         x.setChips(1, 20);
@@ -408,6 +406,10 @@ final class ChipsSentencesTest {
         x.setChips(1, 1);
         due("one chip too many", x.makeRecurrent(), 1);
         due("chips", x.chips(1), 0);
+        x.setSink(1);
+        due("node 0 without chips", x.makeRecurrent(), 0);
+        x.setChips(0, 1);
+        due("one chip too many on node 0", x.makeRecurrent(), 1);
         ChipGame cycle = Check.named("cycle3");
         due("no chips", cycle.makeRecurrent(), 1);
         due("state", Check.digits(cycle), 11);
@@ -550,6 +552,7 @@ final class ChipsSentencesTest {
         x.levelCount(0);
         x.tree();
         x.treeAt(0);
+        due("the state stays", Check.digits(x), 45);
         due("undoable", x.value(5), 2);
         due("undo()", x.undo(), 1);
         due("state", Check.digits(x), 40);

@@ -76,9 +76,7 @@ final class ErrorsTest {
 
     private static ChipGame ofTwentyEdges() {
         ChipGame x = Check.drawn(3, 0, 2);
-        while (x.value(1) < 20) {
-            x.addEdge(1, 2);
-        }
+        Check.fill(x, 1, 2);
         Check.setAll(x, 25, 30);
         x.keep(0);
         x.fire(1);
@@ -128,7 +126,7 @@ final class ErrorsTest {
         StringBuilder all = new StringBuilder();
         addGraph(all, x);
         addState(all, x);
-        while (x.value(5) > 0) {
+        for (int undone = 0; undone < 13; undone++) {
             all.append(" undo ").append(x.undo());
             addChips(all, x);
         }

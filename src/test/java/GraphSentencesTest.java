@@ -113,9 +113,7 @@ final class GraphSentencesTest {
         due("sink", x.degree(0), 1);
         x.removeEdge(0);
         due("removed", x.degree(2), 2);
-        while (x.value(1) < 20) {
-            x.addEdge(1, 2);
-        }
+        Check.fill(x, 1, 2);
         due("most", x.degree(2), 20);
     }
 
@@ -285,6 +283,7 @@ final class GraphSentencesTest {
         due("removeEdge(12)", x.removeEdge(12), 19);
         for (int e = 0; e < 19; e++) {
             due("first of " + e, x.edge(e, false), (e < 12 ? e : e + 1) % 7);
+            due("second of " + e, x.edge(e, true), (e < 12 ? e : e + 1) % 7 + 1);
         }
         due("edge 19", x.edge(19, false), ChipGame.UNKNOWN);
         due("the last one", x.removeEdge(18), 18);
@@ -434,7 +433,8 @@ final class GraphSentencesTest {
         sentence("directly followed by a digit for its number of nodes k, and nothing else (no blanks)");
         String[] texts = {"", "5", "path", "path 5", " path5", "path5 ", "path05", "path5\n", "path55", "path-5",
             "path+5", "pathV", "Path5", "PATH5", "pat5", "ath5", "paths5", "5path", "path5path", "path/", "path:",
-            "path\u0665", "cycl5", "circle5", "complet5", "complete 5", "complete05", "sta5", "stars5", "whee5",
+            "path\u0665", "patx5", "cyclx5", "completx5", "stax5", "wheex5", "cycl5", "circle5",
+            "complet5", "complete 5", "complete05", "sta5", "stars5", "whee5",
             "wheels5", "starwheel5", "path\0", "\0path5", "path5\0"};
         for (String text : texts) {
             refused(text);
@@ -502,9 +502,7 @@ final class GraphSentencesTest {
         ChipGame x = new ChipGame();
         Check.typeText(x, "path3");
         x.reset(8);
-        while (x.value(1) < 20) {
-            x.addEdge(6, 7);
-        }
+        Check.fill(x, 6, 7);
         x.setSink(7);
         Check.setAll(x, 1, 2, 3, 4, 5, 6, 7);
         due("readGraph", x.readGraph(), 2);

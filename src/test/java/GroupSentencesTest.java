@@ -19,12 +19,14 @@ final class GroupSentencesTest {
         asManyClassesAsTrees();
         factorsGreaterThanOne();
         factorsDivideTheNext();
+        factorsWithEachSink();
         levelBounds();
         treeCountOfUnconnected();
         treeCountBounds();
         identityRefusals();
         orderRefusals();
         orderOfManyChips();
+        orderWithAnotherSink();
         factorNumbers();
         factorOfATree();
         sevenFactors();
@@ -190,6 +192,29 @@ final class GroupSentencesTest {
         due("wheel7: product", z.factor(0) * z.factor(1), z.treeCount());
     }
 
+    private static void factorsWithEachSink() {
+        sentence("with a row and a column for each node but the sink");
+        for (int sink = 0; sink < 7; sink++) {
+            factorsWithSink(Check.named("wheel7"), sink, 8, 40);
+        }
+        for (int sink = 0; sink < 4; sink++) {
+            factorsWithSink(Check.drawn(4, 0, 1, 0, 1, 1, 2, 1, 2, 2, 3, 2, 3, 3, 0, 3, 0), sink, 2, 2, 8);
+            factorsWithSink(Check.drawn(4, 0, 1, 0, 1, 1, 2, 1, 2, 1, 2, 1, 3, 1, 3, 1, 3, 1, 3), sink, 2, 12);
+            factorsWithSink(Check.drawn(4, 0, 1, 0, 1, 0, 1, 1, 2, 1, 2, 2, 3, 2, 3, 2, 3, 2, 3), sink, 2, 12);
+        }
+    }
+
+    private static void factorsWithSink(ChipGame x, int sink, long... want) {
+        x.setSink(sink);
+        due("factor(-1) with sink " + sink, x.factor(-1), want.length);
+        long product = 1;
+        for (int k = 0; k < want.length; k++) {
+            due("factor(" + k + ") with sink " + sink, x.factor(k), want[k]);
+            product *= want[k];
+        }
+        due("treeCount() with sink " + sink, x.treeCount(), product);
+    }
+
     private static void levelBounds() {
         sentence("The level of a recurrent state is the sum of its chips, "
             + "minus the number of edges that are not at the sink.");
@@ -277,6 +302,25 @@ final class GroupSentencesTest {
         y.keep(0);
         y.add(0);
         due("nearly 2000 on each node", y.order(), 4);
+    }
+
+    private static void orderWithAnotherSink() {
+        sentence("28: Returns the order of the class of the state: with another sink");
+        ChipGame x = Check.drawn(3, 0, 1, 1, 0, 1, 2);
+        x.setSink(2);
+        due("no chips", x.order(), 1);
+        x.setChips(0, 1);
+        due("one chip on node 0", x.order(), 2);
+        x.setChips(1, 1);
+        due("one more on node 1", x.order(), 2);
+        x.setChips(0, 0);
+        due("none on node 0", x.order(), 1);
+        ChipGame y = Check.named("cycle5");
+        y.setSink(2);
+        y.setChips(0, 1);
+        due("one chip on node 0 of five", y.order(), 5);
+        y.setChips(4, 1);
+        due("one more on node 4", y.order(), 1);
     }
 
     // ---- promise 29

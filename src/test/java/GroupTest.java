@@ -48,9 +48,7 @@ final class GroupTest {
         }
         due("26 twenty edges", x.treeCount(), 19942);
         ChipGame pair = new ChipGame();
-        while (pair.value(1) < 20) {
-            pair.addEdge(1, 0);
-        }
+        Check.fill(pair, 1, 0);
         due("26 twenty between two", pair.treeCount(), 20);
     }
 
@@ -194,9 +192,7 @@ final class GroupTest {
         levels(Check.named("wheel5"), 14, 16, 10, 4, 1);
         levels(Check.drawn(3, 0, 1, 0, 1, 1, 2, 1, 2), 1, 2, 1);
         ChipGame pair = new ChipGame();
-        while (pair.value(1) < 20) {
-            pair.addEdge(0, 1);
-        }
+        Check.fill(pair, 0, 1);
         for (int level = 0; level < 20; level++) {
             due("31 twenty between two", pair.levelCount(level), 1);
         }

@@ -138,9 +138,7 @@ final class SlotsSentencesTest {
         x.setSink(4);
         x.readGraph();
         due("refused", filled(x), 7);
-        while (x.value(1) < 20) {
-            x.addEdge(0, 1);
-        }
+        Check.fill(x, 0, 1);
         x.keep(2);
         due("FULL", x.addEdge(0, 1), ChipGame.FULL);
         due("refused", filled(x), 4);
@@ -335,6 +333,13 @@ final class SlotsSentencesTest {
             Check.setAll(x, digits / 100, digits / 10 % 10, digits % 10);
             due("state " + digits, x.isSameClass(0), 0);
         }
+        ChipGame pair = Check.drawn(2, 0, 1, 0, 1);
+        pair.setSink(1);
+        pair.keep(0);
+        pair.setChips(0, 1);
+        due("one chip on node 0", pair.isSameClass(0), 0);
+        pair.setChips(0, 2);
+        due("two chips on node 0", pair.isSameClass(0), 1);
         ChipGame tree = Check.named("path5");
         tree.keep(2);
         Check.setAll(tree, 1, 9, 7, 1000);
