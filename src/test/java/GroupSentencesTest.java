@@ -201,6 +201,9 @@ final class GroupSentencesTest {
             factorsWithSink(Check.drawn(4, 0, 1, 0, 1, 1, 2, 1, 2, 2, 3, 2, 3, 3, 0, 3, 0), sink, 2, 2, 8);
             factorsWithSink(Check.drawn(4, 0, 1, 0, 1, 1, 2, 1, 2, 1, 2, 1, 3, 1, 3, 1, 3, 1, 3), sink, 2, 12);
             factorsWithSink(Check.drawn(4, 0, 1, 0, 1, 0, 1, 1, 2, 1, 2, 2, 3, 2, 3, 2, 3, 2, 3), sink, 2, 12);
+            // A node with one edge adds nothing to the group, wherever it is and whatever the sink.
+            factorsWithSink(Check.drawn(4, 0, 1, 1, 2, 2, 3, 3, 1), sink, 3);
+            factorsWithSink(Check.drawn(4, 3, 0, 0, 1, 1, 2, 2, 0), sink, 3);
         }
     }
 
